@@ -1855,15 +1855,18 @@ public final class HalfDone {
 
         /** The most VALUES by no more than n days; NONE if the ranges need more. */
         private int mostBegun(Estate will, int n) {
+            int full = dealer.full();
             dealNothing(n);
             for (int heir = 0; heir < will.heirs; heir++) {
                 findDays(will, heir);
                 findPrices(will, n);
-                for (int set = dealer.full(); set > 0; set--) {
+                /* Nobody comes behind the last HEIR and takes from smaller sets. */
+                int last = heir == will.heirs - 1 ? full : 1;
+                for (int set = full; set >= last; set--) {
                     shareOut(set, n);
                 }
             }
-            return gain[dealer.full() * WIDTH + n];
+            return gain[full * WIDTH + n];
         }
 
         private void dealNothing(int n) {
@@ -1912,9 +1915,11 @@ public final class HalfDone {
                 for (int rest = 0; rest < first; rest++) {
                     int set = first + rest;
                     price[set] = NONE;
+                    /* What is too late for some money is too late for less. */
+                    boolean good = price[rest] != NONE;
                     for (int money = n; money >= 0; money--) {
-                        int time = quickestBy(place, rest, money);
-                        boolean good = will.isInTime(dealer.order[place], time);
+                        int time = good ? quickestBy(place, rest, money) : NONE;
+                        good = will.isInTime(dealer.order[place], time);
                         quickest[set * WIDTH + money] = good ? time : NONE;
                         price[set] = good ? money : price[set];
                     }
