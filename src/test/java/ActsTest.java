@@ -68,6 +68,11 @@ final class ActsTest {
         Check.due("on DAY 5", Check.thing(x, 0, 7), 5);
         Check.due("by HEIR 0", Check.thing(x, 0, 8), 0);
         Check.due("who HOLDS it still", Check.thing(x, 0, 4), 0);
+        HalfDone z = Check.with("t:a9;t:a9;t:a2a1;ha4");
+        z.give(2, 0);
+        z.days(2);
+        Check.due("what is over is lost, of a later THING too", Check.thing(z, 2, 6), 0);
+        Check.due("DONE", Check.thing(z, 2, 2), 1);
         HalfDone y = Check.with("t:a1a1;ha9");
         y.give(0, 0);
         y.days(1);

@@ -93,6 +93,9 @@ final class DealTest {
         learn("tv7r2:b2;ha1;hb2", 11, 7);
         learn("tv7r2:b2;tv8r2:c2;hb2;hc2", 12, 8);
         learn("tv7r3:e1;h", 4, 7);
+        // HEIR 0 does THING 0 on the only day, so only by HEIR 1 THING 1 is added
+        learn("tv7r1:a1;tv8r1:a1;ha3;ha2", 10, 15);
+        learn("tv7r2:a1;tv8r2:a2;ha3;ha2", 0, 15);
         learn("tv7r2:e1;h;h", 0, 0);
         learn("t:a1;ha9b9c9d9", 4, 10);
         learn("t:a1;ha9b9c9d9e9;ha9", 11, 10);

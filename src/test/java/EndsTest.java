@@ -105,6 +105,12 @@ final class EndsTest {
         Check.due("170 fits all", x.dearest(0, 4, 0), 170);
         Check.due("how many", x.dearest(0, 4, 1), 4);
         Check.due("by one sign", x.dearest(0, 1, 1), 2);
+        HalfDone y = new HalfDone();
+        Check.put(y, 2, "1");
+        Check.put(y, 1, "y:i=1&c=2|i=2&p=2&c=0?1");
+        Check.due("one LAW is enough", y.dearest(0, 4, 0), 120);
+        Check.due("how many", y.dearest(0, 4, 1), 1);
+        Check.due("none", y.dearest(0, 1, 1), -1);
     }
 
     private static void sign() {

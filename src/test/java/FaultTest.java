@@ -104,6 +104,8 @@ final class FaultTest {
         due(0, "t:a1;ha9k09", -1);
         due(0, "t:a1;ha10", 8);
         due(0, "t:a1;ha010", 9);
+        due(0, "t:a1;ha000", 9);
+        due(0, "t:a1;ha0k00", -1);
         due(0, "t:a1;hk10", 8);
         due(0, "t:a1;hk99", 8);
         due(0, "t:a1;hk999", 9);

@@ -59,6 +59,9 @@ final class GameTest {
         for (int i = -2; i <= 1; i++) {
             Check.due("rests(" + i + ") of five", y.rests(i), -1000000);
         }
+        HalfDone z = Check.with("tv8:a1;h;h;ha3;h");
+        Check.due("gains(9909, 2) of four", z.gains(9909, 2), 8);
+        Check.due("gains(9990, 2) of four", z.gains(9990, 2), 0);
         Check.due("gains(99999, 0) of five", y.gains(99999, 0), -1000000);
         Check.due("gains(0, 0) of five", y.gains(0, 0), -1000000);
         Check.due("rests(0) without a WILL", new HalfDone().rests(0), -1);

@@ -43,6 +43,7 @@ final class LawTest {
         Check.due("v", wish(will, "y:v", 0, 0), 12);
         Check.due("k", wish(will, "y:k", 1, 0), 9);
         Check.due("s", wish(will, "y:s", 1, 0), 5);
+        Check.due("s, a among them", wish(will, "y:s+0", 0, 0), 5);
         Check.due("d, late or not", wish(will, "y:d", 0, 0), 6);
         Check.due("d, if it can't", wish(will, "y:d", 1, 0), 0);
         Check.due("d, if FINISHED", wish(will, "y:d", 0, 1), 0);
@@ -56,6 +57,15 @@ final class LawTest {
         x.give(0, 0);
         x.days(1);
         Check.due("d and n, if ROTTEN", x.wish(0, 0), 1);
+        Check.put(x, 1, "y:p+c+i");
+        Check.put(x, 1, "y:v+k+s+d+n");
+        Check.put(x, 2, "78");
+        x.law(1);
+        Check.due("signs have a worth", x.ends(0, 1, 1, -1), 1);
+        Check.due("but wishes have no signs", x.wish(0, 0), 0);
+        x.law(2);
+        Check.due("wishes have a worth", x.wish(0, 0), 14);
+        Check.due("but signs have no wishes", x.ends(0, 2, 1, -1), 0);
         Check.due("wish(1, 0)", x.wish(1, 0), -1000000);
         Check.due("wish(0, 1)", x.wish(0, 1), -1000000);
         Check.due("wish(-1, 0)", x.wish(-1, 0), -1000000);

@@ -66,6 +66,11 @@ final class TapeTest {
         Check.due("feed up to 240", x.feed(0, 0, 0, 0, 1), 240);
         Check.due("feed above 240", x.feed(1, 0, 0, 0, 0), -1);
         Check.due("feed of nothing at 240", x.feed(0, 0, 0, 0, 0), 240);
+        Check.due("above 240 by the second", x.feed(0, 1, 0, 0, 0), -1);
+        Check.due("above 240 by the third", x.feed(0, 0, 1, 0, 0), -1);
+        Check.due("above 240 by the fourth", x.feed(0, 0, 0, 1, 0), -1);
+        Check.due("above 240 by the fifth", x.feed(0, 0, 0, 0, 1), -1);
+        Check.due("the tape stays", x.count(5), 240);
     }
 
     private static void end() {

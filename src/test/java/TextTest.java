@@ -59,6 +59,10 @@ final class TextTest {
         Check.due("the LAW is there", x.law(0), true);
         Check.due("wish(0, 0) by it", x.wish(0, 0), 7);
         Check.due("the BEGINNING is there", x.sign(0, 1), 2);
+        Check.due("a third WILL", Check.put(x, 0, "t:a1;h;h"), 1);
+        Check.due("KIN of the first is gone", x.heir(1, 5), 0);
+        Check.due("TOOLS of the first are gone", x.tools(0) + x.tools(1) + x.count(2), 0);
+        Check.due("SKILLS of the first are gone", x.heir(0, 0), 0);
     }
 
     private static void refused() {

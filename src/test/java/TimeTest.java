@@ -83,6 +83,8 @@ final class TimeTest {
         Check.due("helpers: none in time", y.helpers(0), -1);
         HalfDone z = Check.with("tr2:a1b1;h;ha3;hb3;ha3b3;ha9b9");
         Check.due("helpers: the least of those alone", z.helpers(0), 8);
+        Check.due("helpers: the first", Check.with("tr2:a1b1;ha3b3;ha3b3").helpers(0), 1);
+        Check.due("helpers: all", Check.with("tr3:a1b1c1;ha3;hb3;hc3").helpers(0), 7);
     }
 
     private static void closed() {
