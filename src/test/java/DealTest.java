@@ -37,6 +37,7 @@ final class DealTest {
         deal("tv8r6:a6;tv4r3:a3;tv4r6:a3;ha3", 99, 8);
         deal("tr1:a1;tr1:a1;tr1:a1;tr1:a1;tr1:a1;tr1:a1;ha3;ha3;ha3;ha3;ha3;ha3", 12345, 60);
         deal("tv99r1:a9;tv99:a1;tv99:a1;tv99:a1;tv99:a1;tv99:a1;ha9;h;h;h;h;h", 900000, 495);
+        deal("t:b1;t:b1;t:b1;t:b1;t:b1;t:b1;ha3", 999999, 0);
         // one TOOL of a, but TOOLS are not asked
         deal("tr1:a1;tr1:a1;ha3;ha3;ga", 1, 20);
         HalfDone x = Check.with("t:a1;ha3");
