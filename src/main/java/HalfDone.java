@@ -704,10 +704,11 @@ public final class HalfDone {
                     return tape.fails();
                 }
                 tape.skip();
-                int need = tape.number(1, 1, 9);
-                if (need == NONE) {
-                    return false;
+                int need = tape.peek() - '0';
+                if (need < 1 || need > 9) {
+                    return tape.fails();
                 }
+                tape.skip();
                 draft.addStep(thing, trade, need);
             }
             draft.settle(thing);

@@ -99,7 +99,16 @@ final class FaultTest {
         due(0, "t:a0;h", 3);
         due(0, "t:a0", 3);
         due(0, "t:a10;h", 4);
-        due(0, "t:a01;h", 4);
+        due(0, "t:a01;h", 3);
+        due(0, "t:a00;h", 3);
+        due(0, "t:a001;h", 3);
+        due(0, "t: a 0 1;h", 5);
+        due(0, "t:a1b05;h", 5);
+        due(0, "t:a90;h", 4);
+        due(0, "t:a999;h", 4);
+        due(0, "td2:a0;h", 5);
+        due(0, "t:a1b2c3d4e5a6b7c00;h", 17);
+        due(0, "t:a1b2c3d4e5a6b7c80;h", 18);
         due(0, "t:a1 0;h", 5);
         due(0, "t:a1;ha9k09", -1);
         due(0, "t:a1;ha10", 8);

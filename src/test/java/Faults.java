@@ -60,7 +60,7 @@ final class Faults {
         return false;
     }
 
-    /** Whole but for bounds: those are looked at apart, since they are wrong at a last digit. */
+    /** Whole but for bounds of ITEMS: those are looked at apart, since they are wrong at a last digit. */
     private static boolean isWill(String text) {
         if (text.matches("(?s).*[0-9] +[0-9].*")) {
             return false;
@@ -69,7 +69,7 @@ final class Faults {
         int h = 0;
         int g = 0;
         for (String clause : text.replace(" ", "").split(";", -1)) {
-            if (clause.matches("t([vrd][0-9]{1,2})*:([a-e][0-9]){1,8}") && once(clause.split(":")[0])) {
+            if (clause.matches("t([vrd][0-9]{1,2})*:([a-e][1-9]){1,8}") && once(clause.split(":")[0])) {
                 t++;
             } else if (clause.matches("h([abcdek][0-9]{1,2})*") && once(clause)) {
                 h++;
@@ -103,7 +103,7 @@ final class Faults {
             while (item.find()) {
                 int last = from + item.end() - 1;
                 boolean ofStep = ofThing && colon >= 0 && item.start() > colon;
-                if (last < stop && !isWithin(item.group(1).charAt(0), item.group(2), ofThing, ofStep)) {
+                if (!ofStep && last < stop && !isWithin(item.group(1).charAt(0), item.group(2), ofThing)) {
                     return last;
                 }
             }
@@ -112,11 +112,8 @@ final class Faults {
         return -1;
     }
 
-    private static boolean isWithin(char letter, String digits, boolean ofThing, boolean ofStep) {
+    private static boolean isWithin(char letter, String digits, boolean ofThing) {
         int number = Integer.parseInt(digits);
-        if (ofStep) {
-            return number >= 1 && number <= 9;
-        }
         if (!ofThing) {
             return number <= 9;
         }
