@@ -66,6 +66,11 @@ final class EdgeWillTest {
         fault("t:a1;h;h;h;h;h;h;h", 17);
         fault("t:a1;h;ga;gb;gc;gd;ge", 19);
         fault("t:a1;h;h;h;h;h;h; h;x", 18);
+        String full = Edge.clauses("t:a1", 6) + Edge.clauses("h", 6) + Edge.clauses("ga", 4);
+        whole(full.substring(0, 53), 6);
+        for (String more : new String[] {"t:a1", "h", "ga"}) {
+            fault(full + more, 54);
+        }
         Edge.says("in any order");
         for (String text : new String[] {"t:a1;h;ga", "t:a1;ga;h", "h;t:a1;ga", "h;ga;t:a1", "ga;h;t:a1", "ga;t:a1;h"}) {
             whole(text, 1);
